@@ -365,12 +365,12 @@ public final class DogBoard {
 
         int get(int row, int field) {
             int i = row * width + field;
-            return has(row) && i >= 0 && i < cells.length ? cells[i] : 0;
+            return row >= 0 && row < count && i >= 0 && i < cells.length ? cells[i] : 0;
         }
 
         void put(int row, int field, int value) {
             int i = row * width + field;
-            if (has(row) && i >= 0 && i < cells.length) {
+            if (row >= 0 && row < count && i >= 0 && i < cells.length) {
                 cells[i] = value;
             }
         }

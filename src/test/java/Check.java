@@ -108,6 +108,13 @@ final class Check {
         }
     }
 
+    /** A call that must throw, and must change nothing. */
+    static void refused(DogBoard board, String what, Call call, int want) {
+        String before = stateOf(board);
+        due(what, call, want);
+        same(what + ", refused", stateOf(board), before);
+    }
+
     static void isTrue(String what, boolean holds) {
         due(what, holds ? 1 : 0, 1);
     }
