@@ -115,7 +115,12 @@ public final class ScriptTest {
         Check.due("a closed street is felt", () -> b.runScript(3, 400011_400041_610100L), 2);
         Check.due("a setting is felt", () -> b.runScript(3, 510000_201120_100001L), 1);
         Check.due("a sighting is felt", () -> b.runScript(3, 200020_610000_610100L), 2);
-        for (int s = 2; s < 20; s++) {
+        b.sight(3, 1, 12, 0, true);
+        Check.due("a sighting of a script has no photo", () -> b.runScript(2, 200420_700002L), 1);
+        DogBoard first = new DogBoard();
+        first.lose(1, 1, 0, 1);
+        Check.due("a sighting that means the dog 0", () -> first.runScript(1, 200000), -1);
+        for (int s = 3; s < 20; s++) {
             b.sight(0, 0, 255, 0, true);
         }
         Check.due("no room for a sighting", () -> b.runScript(1, 201120), 0);

@@ -166,6 +166,10 @@ public final class TextTest {
         b.set(1, 8);
         b.lose(1, 1, 0, 7);
         b.close(0, 1, true);
+        b.hours(30);
+        b.sight(1, 0, 1, 0, true);
+        b.sight(1, 0, 0, 3, true);
+        b.find(0, 2, 5);
         b.save(0);
         b.save(1);
         Check.write(b, "Md001100001");

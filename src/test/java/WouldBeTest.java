@@ -40,6 +40,10 @@ public final class WouldBeTest {
         Check.due("two that can't both be", () -> b.canBe(0), corners(5));
         b.sight(1, 0, 15, 0, true);
         Check.due("nowhere", () -> b.canBe(0), corners());
+        b.lose(15, 2, 11, 1);
+        Check.due("canBe of one that is lost later", () -> b.canBe(2), corners(11));
+        b.hours(1);
+        Check.due("canBe of it an hour later", () -> b.canBe(2), corners(3, 6, 7, 9, 10, 11));
     }
 
     private static void refusesCanBe() {
@@ -57,6 +61,14 @@ public final class WouldBeTest {
         Check.due("watch without dogs", () -> b.watch(), -1);
         b.lose(15, 1, 5, 10);
         Check.due("watch one", () -> b.watch(), 5);
+        b.undo();
+        b.lose(15, 1, 1, 10);
+        Check.due("watch one at the corner 1", () -> b.watch(), 1);
+        b.undo();
+        b.lose(15, 1, 11, 10);
+        Check.due("watch one at the corner 11", () -> b.watch(), 11);
+        b.undo();
+        b.lose(15, 1, 5, 10);
         b.lose(240, 1, 9, 20);
         Check.due("watch the greater reward", () -> b.watch(), 9);
         b.lose(3, 1, 5, 1);
