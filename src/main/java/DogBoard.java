@@ -1035,11 +1035,11 @@ public final class DogBoard {
         /** Does the command that was read last; REFUSED if the board doesn't allow it. */
         int doCommand(Board board) {
             switch (letter) {
-                case 'd': return board.loseDog(parts[0], parts[1], parts[2], parts[3]);
-                case 's': return board.tellSighting(parts[0], parts[1], parts[2], 0, parts[3] == 1);
-                case 'f': return board.findDog(parts[0], parts[1], parts[2]);
-                case 'x': return board.closeStreet(parts[0], parts[1], parts[2] == 1);
-                case 'h': return board.passHours(parts[0]);
+                case 'd': return board.loseDog(part(0), part(1), part(2), part(3));
+                case 's': return board.tellSighting(part(0), part(1), part(2), 0, part(3) == 1);
+                case 'f': return board.findDog(part(0), part(1), part(2));
+                case 'x': return board.closeStreet(part(0), part(1), part(2) == 1);
+                case 'h': return board.passHours(part(0));
                 default: return REFUSED;
             }
         }
@@ -1122,6 +1122,10 @@ public final class DogBoard {
                 parts[partCount] = value;
                 partCount++;
             }
+        }
+
+        private int part(int i) {
+            return i >= 0 && i < partCount && i < parts.length ? parts[i] : NONE;
         }
 
         private int signHere() {

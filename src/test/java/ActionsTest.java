@@ -262,22 +262,17 @@ public final class ActionsTest {
     }
 
     private static void everyActionIsUndone() {
-        DogBoard b = new DogBoard();
-        b.lose(15, 1, 0, 100);
-        b.hours(1);
-        String before = Check.stateOf(b);
-        Check.Call[] actions = {
-            () -> b.lose(1, 1, 1, 1), () -> b.sight(0, 0, 15, 0, true), () -> b.sight(0, 0, 240, 0, true),
-            () -> b.find(0, 0, 0), () -> b.close(0, 1, true), () -> b.hours(99), () -> b.set(0, 9), () -> b.set(1, 9),
-            () -> b.set(1, 8)};
+        Edges.Question[] actions = {
+            x -> x.lose(1, 1, 1, 1), x -> x.sight(0, 0, 15, 0, true), x -> x.sight(0, 0, 240, 0, true),
+            x -> x.find(0, 0, 0), x -> x.close(0, 1, true), x -> x.hours(99), x -> x.set(0, 9), x -> x.set(1, 8)};
         for (int i = 0; i < actions.length; i++) {
-            boolean isDone = Check.answerOf(actions[i]) != Check.ARGUMENT;
-            Check.due("undo action " + i, () -> b.undo(), isDone ? 2 : 1);
-            if (!isDone) {
-                b.hours(1);
-            }
-            Check.same("action " + i + " undone", Check.stateOf(b), before);
+            DogBoard x = Edges.lostAt(0, 1, 1);
+            String before = Check.stateOf(x);
+            actions[i].of(x);
+            Check.due("undo action " + i, () -> x.undo(), 2);
+            Check.same("action " + i + " undone", Check.stateOf(x), before);
         }
+        DogBoard b = Edges.lostAt(0, 1, 1);
         b.sight(0, 0, 15, 0, true);
         b.find(0, 3, 0);
         b.undo();

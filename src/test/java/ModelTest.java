@@ -2,7 +2,7 @@ import java.util.Random;
 
 /** Long runs of calls, with every answer compared with the model's. The seeds are fixed. */
 public final class ModelTest {
-    private static final int RUNS = 300;
+    private static final int RUNS = 450;
     private static final int CALLS = 512;
     private static final int[] EDGES = {Integer.MIN_VALUE, -2, -1, 12, 21, 100, 256, 501, Integer.MAX_VALUE};
 
@@ -10,6 +10,7 @@ public final class ModelTest {
     private final DogBoard board = new DogBoard();
     private final Model model = new Model();
     private final int run;
+    private int calls;
     private int[] dogMarks = {15, 240, 51, 204, 85, 255};
 
     private ModelTest(int run) {
@@ -25,7 +26,7 @@ public final class ModelTest {
     }
 
     private void go() {
-        for (int call = 0; call < CALLS; call++) {
+        while (calls < CALLS) {
             if (random.nextInt(3) == 0) {
                 ask();
             } else {
@@ -44,7 +45,12 @@ public final class ModelTest {
         return random.nextInt(3) == 0 ? in(0, 255) : near & (random.nextInt(4) == 0 ? ~(1 << random.nextInt(8)) : 255);
     }
 
+    /** Nothing is promised about a board behind its last call, so nothing is asked of it then. */
     private void due(String what, Check.Call got, Check.Call want) {
+        if (calls >= CALLS) {
+            return;
+        }
+        calls++;
         Check.due("run " + run + ": " + what, Check.answerOf(got), Check.answerOf(want));
     }
 
