@@ -490,12 +490,16 @@ public final class DogBoard {
         private boolean sweepOnce() {
             boolean changed = false;
             for (int i = 0; i + 1 < ENDS.length; i += 2) {
-                if (!hasBit(closed, i / 2)) {
-                    changed |= shortens(ENDS[i], ENDS[i + 1]);
-                    changed |= shortens(ENDS[i + 1], ENDS[i]);
+                if (!hasBit(closed, i / 2) && shortensEither(ENDS[i], ENDS[i + 1])) {
+                    changed = true;
                 }
             }
             return changed;
+        }
+
+        /** At most one of the two can become nearer by the street between them. */
+        private boolean shortensEither(int a, int b) {
+            return shortens(a, b) || shortens(b, a);
         }
 
         private boolean shortens(int from, int to) {

@@ -48,7 +48,7 @@ final class ActionEdges {
     }
 
     private static void noneIsMinusOne() {
-        Check.sentence(0, "`NONE = -1`: There is no such result.");
+        Check.sentence(0, "The constants: `NONE = -1`: There is no such result.");
         Check.due("NONE", DogBoard.NONE, -1);
     }
 
@@ -176,7 +176,8 @@ final class ActionEdges {
     }
 
     private static void fourteenStates() {
-        Check.sentence(0, "Before each action, the state is remembered. At most 14 states are remembered");
+        Check.sentence(0, "Before each action, the state is remembered.");
+        Check.sentence(0, "At most 14 states are remembered");
         for (int actions = 0; actions <= 31; actions++) {
             DogBoard b = new DogBoard();
             for (int n = 0; n < actions; n++) {

@@ -12,6 +12,8 @@ final class Check {
 
     /** The number under which a test quotes what stands ahead of the promises. */
     static final int TERMS = 0;
+    /** The number under which a test quotes what stands behind the promises. */
+    static final int NOT_PROMISED = -1;
 
     private static final int MOST_SECONDS = 300;
 
@@ -51,8 +53,15 @@ final class Check {
 
     /** Says against which sentence of the document the class is held from here on. */
     static void sentence(int promise, String words) {
-        QUOTES.add(new Quote(promise, words));
-        against = (promise == TERMS ? "Terms" : "Promise " + promise) + ", \"" + words + "\"\n  ";
+        Quote quote = new Quote(promise, words);
+        QUOTES.add(quote);
+        against(quote);
+    }
+
+    /** Says which words are printed with a wrong answer, and leaves open whether a test quotes them. */
+    static void against(Quote quote) {
+        String where = quote.promise() > TERMS ? "Promise " + quote.promise() : "Beside the promises";
+        against = where + ", \"" + quote.words() + "\"\n  ";
     }
 
     static Set<Quote> quotes() {

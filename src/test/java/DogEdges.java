@@ -119,7 +119,7 @@ final class DogEdges {
     }
 
     private static void rewardOfADog() {
-        Check.sentence(0, "a reward, 1 to 500 coins, paid to the board as it is lost");
+        Check.sentence(0, "and a reward, 1 to 500 coins, paid to the board as it is lost");
         DogBoard b = new DogBoard();
         Check.due("lose with a coin", () -> b.lose(1, 1, 0, 1), 0);
         Check.due("a coin is paid", b.about(4), 1);
@@ -273,9 +273,9 @@ final class DogEdges {
     }
 
     private static void numbersOfADog() {
-        Check.sentence(7, "0: its marks; 1: its pace; 2: the corner where it was lost; 3: the hour when it was lost; "
-                + "4: its reward, as it is or was when it was found; 5: 1 if it is missing, otherwise 0; 6: sightings that "
-                + "mean it; 7: those of them that are no frauds; 8: the corner where it was found, NONE if it is missing; "
+        Check.sentence(7, "- `what`: 0: its marks; 1: its pace; 2: the corner where it was lost; 3: the hour when it was "
+                + "lost; 4: its reward, as it is or was when it was found; 5: 1 if it is missing, otherwise 0; 6: sightings "
+                + "that mean it; 7: those of them that are no frauds; 8: the corner where it was found, NONE if it is missing; "
                 + "9: the finder who found it, NONE likewise; 10: the hour when it was found, NONE likewise");
         DogBoard b = Edges.busy();
         due(b, 0, 15, 1, 5, 0, 105, 1, 2, 2, -1, -1, -1);

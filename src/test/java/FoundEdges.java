@@ -41,8 +41,9 @@ final class FoundEdges {
         Check.due("two fifths of a coin", one.purse(1), 0);
     }
 
-    private static final String HELPS = "each sighting that means it and is no fraud helps by 1, and by 1 more if it has a "
-            + "photo, and by 1 more if its corner is at most 1 street from where it is found; who finds it helps by 3";
+    private static final String HELPS = "When a missing dog is found by a finder at a corner, its reward is shared: each "
+            + "sighting that means it and is no fraud helps by 1, and by 1 more if it has a photo, and by 1 more if its "
+            + "corner is at most 1 street from where it is found; who finds it helps by 3";
 
     /** What the finder 1 gets of 420 coins for one sighting at 5, when finder 2 finds the dog at a corner. */
     private static int shareOf420(boolean photo, int foundAt, int closedTo) {
@@ -235,9 +236,9 @@ final class FoundEdges {
     }
 
     private static void numbersOfTheBoard() {
-        Check.sentence(6, "0: the dogs; 1: those missing; 2: the sightings; 3: the hour of now; 4: coins paid to the board "
-                + "so far; 5: coins given to finders so far; 6: coins that stayed with the board of rewards that were shared; "
-                + "7: the rewards of missing dogs together; 8: the sightings that are frauds, how many; 9: those that mean no "
+        Check.sentence(6, "- `what`: 0: the dogs; 1: those missing; 2: the sightings; 3: the hour of now; 4: coins paid to "
+                + "the board so far; 5: coins given to finders so far; 6: coins that stayed with the board of rewards that "
+                + "were shared; 7: the rewards of missing dogs together; 8: the sightings that are frauds, how many; 9: those that mean no "
                 + "dog; 10: the closed streets");
         dueAbout(Edges.fresh(), 0, 0, 0, 0, 0, 0, 0, 0, 0, 0, 0);
         dueAbout(Edges.busy(), 3, 2, 5, 31, 175, 14, 1, 160, 1, 1, 2);

@@ -1,5 +1,7 @@
+import com.sun.source.tree.BinaryTree;
 import com.sun.source.tree.ClassTree;
 import com.sun.source.tree.CompilationUnitTree;
+import com.sun.source.tree.CompoundAssignmentTree;
 import com.sun.source.tree.ImportTree;
 import com.sun.source.tree.LineMap;
 import com.sun.source.tree.MethodInvocationTree;
@@ -27,6 +29,7 @@ import java.util.Map;
 import java.util.Set;
 import java.util.TreeSet;
 import javax.lang.model.element.Element;
+import javax.lang.model.type.TypeKind;
 import javax.tools.JavaCompiler;
 import javax.tools.StandardJavaFileManager;
 import javax.tools.ToolProvider;
@@ -72,6 +75,8 @@ public final class LanguageTest {
     private static final Set<Tree.Kind> NOT_ALLOWED = EnumSet.of(Tree.Kind.LAMBDA_EXPRESSION,
             Tree.Kind.MEMBER_REFERENCE, Tree.Kind.SYNCHRONIZED, Tree.Kind.ASSERT, Tree.Kind.TRY,
             Tree.Kind.INSTANCE_OF, Tree.Kind.TYPE_CAST);
+    private static final Set<Tree.Kind> MASKS = EnumSet.of(Tree.Kind.AND, Tree.Kind.OR, Tree.Kind.XOR,
+            Tree.Kind.AND_ASSIGNMENT, Tree.Kind.OR_ASSIGNMENT, Tree.Kind.XOR_ASSIGNMENT);
 
     public static void main(String[] args) throws Exception {
         checkFace();
@@ -159,6 +164,25 @@ public final class LanguageTest {
                     || tree.getKind() == Tree.Kind.TYPE_CAST && tree.toString().startsWith("(int)");
             Check.isTrue(tree == null ? "nothing" : at(tree) + " has no " + tree.getKind(), isAllowed);
             return super.scan(tree, none);
+        }
+
+        /** Booleans are joined by && and ||: masks are for numbers. */
+        private void checkMask(Tree tree) {
+            boolean isMask = MASKS.contains(tree.getKind());
+            Check.isTrue(at(tree) + " has no mask of booleans", !isMask
+                    || trees.getTypeMirror(getCurrentPath()).getKind() != TypeKind.BOOLEAN);
+        }
+
+        @Override
+        public Void visitBinary(BinaryTree tree, Void none) {
+            checkMask(tree);
+            return super.visitBinary(tree, none);
+        }
+
+        @Override
+        public Void visitCompoundAssignment(CompoundAssignmentTree tree, Void none) {
+            checkMask(tree);
+            return super.visitCompoundAssignment(tree, none);
         }
 
         @Override

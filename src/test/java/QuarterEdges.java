@@ -146,7 +146,7 @@ final class QuarterEdges {
             Check.due("the way from the other end, " + i, b.apart(7, row[i], 0), 11 - i);
             Check.due("the way from the other end, swept, " + i, b.apart(7, row[i], 1), 11 - i);
         }
-        Check.sentence(10, "0: told by going from corners to those beside them, one street more each time");
+        Check.sentence(10, "- `way`: 0: told by going from corners to those beside them, one street more each time");
         Check.due("all streets of the longest way", b.apart(7, 11, 0), 11);
     }
 

@@ -310,8 +310,17 @@ final class ScriptEdges {
     }
 
     private static void anyOtherGroup() {
+        Check.sentence(22, "All are decimal numbers.");
+        for (int n = 1; n <= 99; n++) {
+            int grown = 250 + 5 * ((2 + n) / 24);
+            String two = "" + n / 10 + n % 10;
+            succeeds("1000" + two + " 810" + grown);
+            fails("1000" + two + " 810" + (grown + 1));
+            due(ScriptEdges::board, "5000" + two + " 100022 810" + (250 + n), n <= 50 ? -1 : 0);
+            due(ScriptEdges::board, "5000" + two + " 100022 810" + (251 + n), n <= 50 ? 2 : 0);
+        }
         Check.sentence(22, "and so does any other group (also one with another digit where a 0 is written, a b above 1, or "
-                + "an m above 7). All are decimal numbers.");
+                + "an m above 7).");
         for (int digits = 0; digits <= 99999; digits += 101) {
             int group = digits;
             Check.due("a group with a zero ahead, " + digits, () -> board().runScript(1, group), 0);
@@ -480,7 +489,8 @@ final class ScriptEdges {
     }
 
     private static void fraudsAndMissingAtTheEnd() {
-        Check.sentence(23, "10 * (the sightings at the end that are frauds) + (the missing dogs at the end)");
+        Check.sentence(23, "Returns 1000 * (the coins given to finders in the turns, modulo 1000) + 10 * (the sightings at the "
+                + "end that are frauds) + (the missing dogs at the end).");
         DogBoard b = new DogBoard();
         Check.due("nothing, an hour", () -> b.simulate(seedFor(6), 1), 0);
         Check.due("nothing, and one is lost", () -> b.simulate(seedFor(0), 1), 1);

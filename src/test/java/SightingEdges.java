@@ -470,8 +470,8 @@ final class SightingEdges {
     }
 
     private static void numbersOfASighting() {
-        Check.sentence(8, "0: its finder; 1: its corner; 2: its hour; 3: its marks; 4: 1 if it has a photo, otherwise 0; "
-                + "5: the dog that it means, NONE without one; 6: the marks that are unlike those of this dog, how many, "
+        Check.sentence(8, "- `what`: 0: its finder; 1: its corner; 2: its hour; 3: its marks; 4: 1 if it has a photo, "
+                + "otherwise 0; 5: the dog that it means, NONE without one; 6: the marks that are unlike those of this dog, how many, "
                 + "NONE likewise; 7: 1 if it is true to this dog, otherwise 0, NONE likewise; 8: 1 if it is a fraud, "
                 + "otherwise 0");
         DogBoard b = Edges.busy();

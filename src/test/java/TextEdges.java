@@ -45,6 +45,7 @@ final class TextEdges {
         aTextThatEndsTooSoon();
         errorPositionOfABoard();
         cornersAndFindersInAText();
+        lostDogsInAText();
         photosAndClosedStreets();
         sightingsAtTheHourOfNow();
         commandsAreLeftOut();
@@ -232,6 +233,28 @@ final class TextEdges {
         DogBoard six = written("M" + "d001100001".repeat(6) + "f5000");
         Check.due("the dog 5", () -> six.load(), 0);
         Check.due("the dog 5 is found", six.dogOf(5, 5), 0);
+    }
+
+    private static void lostDogsInAText() {
+        Check.sentence(0, "d, marks (001 to 255), a digit for a pace (1 to 3), a corner, and three digits for coins (001 to "
+                + "500): lose()");
+        String[] texts = {"Md001100001", "Md255311500", "Md128209100", "Md010110010", "Md099303499"};
+        int[][] dogs = {{1, 1, 0, 0, 1}, {255, 3, 11, 0, 500}, {128, 2, 9, 0, 100}, {10, 1, 10, 0, 10}, {99, 3, 3, 0, 499}};
+        for (int i = 0; i < texts.length; i++) {
+            DogBoard b = written(texts[i]);
+            Check.due("load of " + texts[i], () -> b.load(), 0);
+            for (int what = 0; what < 5; what++) {
+                Check.due("its dog, " + what, b.dogOf(0, what), dogs[i][what]);
+            }
+            Check.due("it is missing", b.dogOf(0, 5), 1);
+            Check.due("its reward is paid", b.about(4), dogs[i][4]);
+        }
+        String[] wrong = {"Md000100001", "Md256100001", "Md001000001", "Md001400001", "Md001112001", "Md001100000",
+            "Md001100501"};
+        int[] errors = {4, 4, 5, 5, 7, 10, 10};
+        for (int i = 0; i < wrong.length; i++) {
+            Check.due("errorPosition of " + wrong[i], written(wrong[i]).errorPosition(), errors[i]);
+        }
     }
 
     private static void photosAndClosedStreets() {
